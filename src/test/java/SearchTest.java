@@ -1,0 +1,118 @@
+/** Promises 11 fewest, 12 won, 13 first. */
+public final class SearchTest {
+    private static final Check CHECK = new Check("SearchTest");
+
+    public static void main(String[] args) {
+        fewest();
+        spent();
+        games();
+        again();
+        CHECK.end();
+    }
+
+    private static void fewestOf(String text, int gate, int... row) {
+        fewestOf(text, Check.yardOf(text), gate, row);
+    }
+
+    private static void fewestOf(String name, IceYard x, int gate, int... row) {
+        CHECK.due(name + " fewest " + gate, x.fewest(gate, -1), row.length == 0 ? IceYard.NONE : row.length);
+        for (int q = 0; q < row.length; q++) {
+            CHECK.due(name + " fewest " + gate + " q " + q, x.fewest(gate, q), row[q]);
+        }
+        CHECK.due(name + " fewest " + gate + " beyond", x.fewest(gate, row.length), IceYard.NONE);
+        CHECK.due(name + " fewest " + gate + " far", x.fewest(gate, Integer.MAX_VALUE), IceYard.NONE);
+        CHECK.due(name + " no PUSH is done", x.many(4), 0);
+    }
+
+    private static void fewest() {
+        fewestOf("i33;o.a;...;...", 0, 1);
+        fewestOf("i33;o.a;...;...", 1);
+        fewestOf("i33;o..;...;..b", 1, 1, 2);
+        fewestOf("i33;...;...;...", 0);
+        // Right then down, and down then right, are as short: right is the first.
+        fewestOf("i33;o..;...;..a", 0, 1, 2);
+        // BLOCK 1 alone is HOME in one.
+        fewestOf("i34;o..#;....;l..b", 1, 11);
+        // A strike brings it HOME.
+        fewestOf("i34;l.ob;....;....", 1, 1);
+        // SAND lets it stop ahead of the turn.
+        fewestOf("i35;o.s..;.....;##a##", 0, 1, 2);
+        // One that is HOME already is not one that comes HOME.
+        IceYard x = Check.yardOf("i34;o..a;....;o...");
+        x.push(0, 1);
+        x.keep(0);
+        x.back(0);
+        fewestOf("one HOME already", x, 0, 10, 11);
+        x.push(1, 0);
+        x.push(1, 1);
+        x.keep(0);
+        x.back(0);
+        fewestOf("all HOME", x, 0);
+        x = Check.yardOf("i33;o.a;...;..b");
+        CHECK.due("GATE -1", x.fewest(-1, -1), IceYard.UNKNOWN);
+        CHECK.due("GATE 2", x.fewest(2, -1), IceYard.UNKNOWN);
+        CHECK.due("q -2", x.fewest(0, -2), IceYard.UNKNOWN);
+        CHECK.due("q least", x.fewest(0, Integer.MIN_VALUE), IceYard.UNKNOWN);
+    }
+
+    private static void spent() {
+        // So many YARDS as are told can be come to, and no GATE: 1500 are not too many, 1501 are.
+        fewestOf("i35;l...#;o..o#;.....", 0);
+        fewestOf("i35;....l;.o...;.#.#o", 1);
+        for (String text : new String[] {"i35;sdcld;.c...;.....", "i66;o.....;.o....;..o...;...o..;....o.;.....o"}) {
+            IceYard x = Check.yardOf(text);
+            CHECK.due(text + " SPENT", x.fewest(0, -1), IceYard.SPENT);
+            CHECK.due(text + " SPENT, q 0", x.fewest(1, 0), IceYard.SPENT);
+            CHECK.due(text + " UNKNOWN ahead of SPENT", x.fewest(2, 0), IceYard.UNKNOWN);
+        }
+        // 1499 come ahead of the first row.
+        CHECK.due("late", Check.yardOf("i64;.s#b;llac;.o..;...s;....;...c").fewest(1, -1), 7);
+    }
+
+    private static void game(String text, int boy, int won, int first) {
+        IceYard x = Check.yardOf(text);
+        CHECK.due(text + " won " + boy, x.won(boy), won);
+        CHECK.due(text + " first " + boy, x.first(boy), first);
+        CHECK.due(text + " no PUSH is done", x.many(4), 0);
+    }
+
+    private static void games() {
+        game("i33;o.a;...;..b", 0, 1, 1);
+        game("i33;o.a;...;..b", 1, IceYard.NONE, IceYard.NONE);
+        game("i33;...;...;...", 0, IceYard.NONE, IceYard.NONE);
+        game("i33;###;#o#;###", 0, IceYard.NONE, IceYard.NONE);
+        // The other one has to bring it HOME by the boy's GATE, for nothing else can be pushed.
+        game("i35;##c##;asod#;#####", 0, 2, 0);
+        game("i35;a####;bcdo#;#####", 1, 2, 3);
+        game("i33;##a;slc;##l", 0, 2, 1);
+        game("i36;#cs###;sdlsa#;###cc#", 0, 4, 3);
+        game("i36;o##.ac;sldca#;#.##..", 0, 4, 13);
+        game("i36;###c#o;bsld.#;##..#.", 1, 4, 11);
+        // By the other boy's GATE it is he who has won.
+        game("i33;#b#;#o#;#a#", 0, 1, 2);
+        game("i33;#b#;#o#;#a#", 1, 1, 0);
+        game("i33;###;#o#;#a#", 1, IceYard.NONE, IceYard.NONE);
+        IceYard x = Check.yardOf("i33;o.a;...;..b");
+        CHECK.due("won -1", x.won(-1), IceYard.UNKNOWN);
+        CHECK.due("won 2", x.won(2), IceYard.UNKNOWN);
+        CHECK.due("first -1", x.first(-1), IceYard.UNKNOWN);
+        CHECK.due("first 2", x.first(2), IceYard.UNKNOWN);
+    }
+
+    /** The same asked once more, of a YARD that has changed, and of another YARD. */
+    private static void again() {
+        IceYard x = Check.yardOf("i35;o...a;.....;....b");
+        CHECK.due("GATE 0", x.fewest(0, -1), 1);
+        CHECK.due("won 0", x.won(0), 1);
+        x.push(0, 2);
+        CHECK.due("GATE 0 from below", x.fewest(0, -1), 2);
+        CHECK.due("GATE 1 from below", x.fewest(1, -1), 1);
+        CHECK.due("won 0 from below", x.won(0), IceYard.NONE);
+        x.undo(1);
+        CHECK.due("GATE 0 once more", x.fewest(0, 0), 1);
+        Check.lay(x, "i35;o.#.a;.....;.....");
+        CHECK.due("behind a WALL", x.fewest(0, -1), 3);
+        CHECK.due("behind a WALL, the first", x.fewest(0, 0), 2);
+        CHECK.due("won 0 behind a WALL", x.won(0), IceYard.NONE);
+    }
+}

@@ -1,0 +1,203 @@
+/** Promises 2 yard, 3 at, 4 ofBlock, 27 many. */
+public final class YardTest {
+    private static final Check CHECK = new Check("YardTest");
+    private static final String FULL_TEXT = "i35;l.o.a;.#s#.;d..cb";
+
+    public static void main(String[] args) {
+        texts();
+        firstFaults();
+        limits();
+        refusals();
+        allAnew();
+        lanes();
+        at();
+        ofBlock();
+        many();
+        CHECK.end();
+    }
+
+    private static void text(String text, int want) {
+        CHECK.due("yard of " + text, Check.lay(new IceYard(), text), want);
+    }
+
+    private static void texts() {
+        text("i33;...;...;...", 0);
+        text("i33;###;###;###", 0);
+        text("i33;aaa;bab;bbb", 0);
+        text("i66;oooldd;......;......;......;......;......", 6);
+        text("i63;o..;...;...;...;...;..l", 2);
+        text("i36;......;......;.....d", 1);
+    }
+
+    private static void firstFaults() {
+        text("", -100);
+        text("I33;...;...;...", -100);
+        text("i", -101);
+        text("i23;...;...", -101);
+        text("i73;...", -101);
+        text("i3", -102);
+        text("i32;", -102);
+        text("i37;", -102);
+        text("i3;", -102);
+        text("i33", -103);
+        text("i33.", -103);
+        text("i33;", -104);
+        text("i33;;", -104);
+        text("i33;..", -106);
+        text("i33;...", -107);
+        text("i33;....", -107);
+        text("i33;..;", -106);
+        text("i33;...;...;..", -114);
+        text("i33;...;...;...;", -115);
+        text("i33;...;...;....", -115);
+        text("i33;..x;...;...", -106);
+        text("i33;..O;...;...", -106);
+        text("i33;..e;...;...", -106);
+        text("i33;.. ;...;...", -106);
+        for (int i = 0; i < FULL_TEXT.length(); i++) {
+            text(FULL_TEXT.substring(0, i), -100 - i);
+            text(FULL_TEXT.substring(0, i) + "?" + FULL_TEXT.substring(i), -100 - i);
+        }
+        text(FULL_TEXT, 3);
+        text(FULL_TEXT + "?", -121);
+    }
+
+    private static void limits() {
+        text("i33;cc.;cc.;...", 0);
+        text("i33;ccc;cc.;...", -109);
+        text("i33;cc.;cc.;..c", -114);
+        text("i33;old;old;...", 6);
+        text("i33;old;old;..l", -114);
+        text("i33;ooo;ooo;o..", -112);
+        text("i34;oooo;oocc;ccoc", -116);
+        text("i34;oooo;oocc;cc.c", -117);
+    }
+
+    private static void refusals() {
+        IceYard x = new IceYard();
+        x.sheet(0, 0, 15);
+        x.lose(1);
+        due(x, "sheet -1", x.yard(-1, 0, 0, 0), IceYard.UNKNOWN, 0);
+        due(x, "sheet 4 ahead of lane", x.yard(4, 3, 0, 0), IceYard.UNKNOWN, 0);
+        due(x, "lane -1", x.yard(0, -1, 0, 0), IceYard.OUTSIDE, 0);
+        due(x, "lane 3 ahead of NULL", x.yard(1, 3, 0, 0), IceYard.OUTSIDE, 0);
+        due(x, "CAST ahead of SIZE", x.yard(0, 1, 0, -1), -12, 2);
+        due(x, "nothing is no CAST", x.yard(1, 1, 0, -1), -11, 1);
+        due(x, "SIZE ahead of INDEX", x.yard(0, 0, -1, -1), -14, 4);
+        due(x, "i below 0", x.yard(0, 0, -1, 1), -13, 3);
+        due(x, "i below 0, none taken", x.yard(0, 0, -1, 0), -13, 3);
+        due(x, "i beyond, none taken", x.yard(0, 0, 16, 0), -13, 3);
+        due(x, "i at the end, none taken", x.yard(0, 0, 15, 0), -100, 0);
+        due(x, "too many", x.yard(0, 0, 1, 15), -13, 3);
+        due(x, "far too many", x.yard(0, 0, 1, Integer.MAX_VALUE), -13, 3);
+        due(x, "far beyond", x.yard(0, 0, Integer.MAX_VALUE, Integer.MAX_VALUE), -13, 3);
+        due(x, "refused after a FAULT", x.yard(4, 0, 0, 0), IceYard.UNKNOWN, 0);
+        x.yard(0, 0, -1, 1);
+        due(x, "no TEXT after a FAULT", x.yard(0, 0, 0, 1), -100, 0);
+        CHECK.due("no YARD came of it", x.many(0), 0);
+    }
+
+    private static void due(IceYard x, String call, long got, long want, int fault) {
+        CHECK.due(call, got, want);
+        CHECK.due(call + ": fault()", x.fault(), fault);
+    }
+
+    private static void allAnew() {
+        IceYard x = Check.yardOf("i33;l..;...;..o");
+        x.push(0, 1);
+        x.keep(0);
+        x.push(0, 2);
+        x.tell(0);
+        int trace = x.trace();
+        CHECK.due("no TEXT", Check.lay(x, "i33;o..;...;..?"), -114);
+        CHECK.due("what is no TEXT changes nothing", x.many(4), 2);
+        CHECK.due("nor the BLOCKS", x.many(2), 2);
+        CHECK.due("nor the IMAGES", x.back(0), 1);
+        CHECK.due("back", x.ofBlock(0, 1), 2);
+        x.push(0, 2);
+        CHECK.due("a TEXT", Check.lay(x, "i43;..o;...;.c.;..."), 1);
+        CHECK.due("no PUSHES", x.many(4), 0);
+        CHECK.due("nothing to undo", x.undo(1), IceYard.OUTSIDE);
+        CHECK.due("no IMAGES", x.back(0), IceYard.STATE);
+        CHECK.due("HIGH", x.many(0), 4);
+        CHECK.due("TRACE stays", x.trace(), trace);
+        CHECK.due("SHEETS stay", x.cell(3, 0, 2), 'i');
+        CHECK.due("BLOCK 0", x.ofBlock(0, 1), 2);
+        CHECK.due("BLOCK 1 is no more", x.ofBlock(1, 1), IceYard.UNKNOWN);
+        CHECK.due("the walls of the new YARD", x.would(0, 2), 11);
+    }
+
+    private static void lanes() {
+        for (int lane = 0; lane < 3; lane++) {
+            IceYard x = new IceYard();
+            x.sheet(lane, lane, 40);
+            for (int i = 0; i < FULL_TEXT.length(); i++) {
+                x.put(lane, 10 + i, FULL_TEXT.charAt(i));
+            }
+            CHECK.due("from 10 on, lane " + lane, x.yard(lane, lane, 10, FULL_TEXT.length()), 3);
+            CHECK.due("at 14", x.at(14), 5);
+            x.put(lane, 10, 'i' + 65536);
+            int want = lane == 2 ? -100 : 3;
+            CHECK.due("a cell is cut to lane " + lane, x.yard(lane, lane, 10, FULL_TEXT.length()), want);
+        }
+    }
+
+    private static void at() {
+        IceYard x = Check.yardOf(FULL_TEXT);
+        int[] want = {10, 0, 11, 0, 4, 0, 1, 2, 1, 0, 12, 0, 0, 3, 5};
+        for (int c = 0; c < want.length; c++) {
+            CHECK.due("at(" + c + ")", x.at(c), want[c]);
+        }
+        CHECK.due("at(-1)", x.at(-1), IceYard.UNKNOWN);
+        CHECK.due("at(15)", x.at(15), IceYard.UNKNOWN);
+        CHECK.due("at(64)", x.at(64), IceYard.UNKNOWN);
+        CHECK.due("at(least)", x.at(Integer.MIN_VALUE), IceYard.UNKNOWN);
+        x.push(1, 2);
+        CHECK.due("a BLOCK on SAND", x.at(7), 11);
+        CHECK.due("where it was", x.at(2), 0);
+        x.push(2, 1);
+        CHECK.due("a FILLED CRACK", x.at(13), 0);
+        x.push(0, 1);
+        CHECK.due("a GATE stays one", x.at(4), 4);
+        x.undo(2);
+        CHECK.due("a CRACK again", x.at(13), 3);
+    }
+
+    private static void ofBlock() {
+        IceYard x = Check.yardOf("i34;l..a;o..b;d..c");
+        for (int k = 0; k < 3; k++) {
+            CHECK.due("kind of " + k, x.ofBlock(k, 0), k == 0 ? 1 : k == 1 ? 0 : 2);
+            CHECK.due("CELL of " + k, x.ofBlock(k, 1), 4 * k);
+            CHECK.due("OUTSIDE -1", x.ofBlock(k, -1), IceYard.OUTSIDE);
+            CHECK.due("OUTSIDE 2", x.ofBlock(k, 2), IceYard.OUTSIDE);
+        }
+        CHECK.due("UNKNOWN ahead of OUTSIDE", x.ofBlock(3, 2), IceYard.UNKNOWN);
+        CHECK.due("UNKNOWN below 0", x.ofBlock(-1, 0), IceYard.UNKNOWN);
+        CHECK.due("HOME by GATE 0", x.push(0, 1), -20);
+        CHECK.due("HOME by GATE 1", x.push(1, 1), -21);
+        CHECK.due("GONE", x.push(2, 1), IceYard.GONE);
+        CHECK.due("ofBlock HOME 0", x.ofBlock(0, 1), -20);
+        CHECK.due("ofBlock HOME 1", x.ofBlock(1, 1), -21);
+        CHECK.due("ofBlock GONE", x.ofBlock(2, 1), IceYard.GONE);
+        CHECK.due("kind of one that is GONE", x.ofBlock(2, 0), 2);
+    }
+
+    private static void many() {
+        IceYard x = Check.yardOf("i46;o....c;......;l....c;d.....");
+        due(x, 4, 6, 3, 2, 0);
+        x.push(0, 1);
+        due(x, 4, 6, 3, 1, 1);
+        x.push(1, 1);
+        due(x, 4, 6, 3, 0, 2);
+        x.undo(1);
+        due(x, 4, 6, 3, 1, 1);
+        CHECK.due("many(-1)", x.many(-1), IceYard.OUTSIDE);
+        CHECK.due("many(5)", x.many(5), IceYard.OUTSIDE);
+    }
+
+    private static void due(IceYard x, int... want) {
+        for (int what = 0; what < want.length; what++) {
+            CHECK.due("many(" + what + ")", x.many(what), want[what]);
+        }
+    }
+}
