@@ -88,6 +88,12 @@ public final class SearchTest {
         game("i36;#cs###;sdlsa#;###cc#", 0, 4, 3);
         game("i36;o##.ac;sldca#;#.##..", 0, 4, 13);
         game("i36;###c#o;bsld.#;##..#.", 1, 4, 11);
+        // It would be won in 5.
+        game("i34;b#d#;cssd;#.##", 1, IceYard.NONE, IceYard.NONE);
+        game("i35;.####;#cdss;##d#a", 0, IceYard.NONE, IceYard.NONE);
+        // Where the boy himself brings the other LOG HOME by the other boy's GATE, that one has won: no GAME goes on.
+        game("i35;##l##;aasb#;#l###", 1, IceYard.NONE, IceYard.NONE);
+        game("i35;d####;.#ssb;as#o#", 1, IceYard.NONE, IceYard.NONE);
         // By the other boy's GATE it is he who has won.
         game("i33;#b#;#o#;#a#", 0, 1, 2);
         game("i33;#b#;#o#;#a#", 1, 1, 0);

@@ -125,6 +125,11 @@ public final class YardTest {
         CHECK.due("BLOCK 0", x.ofBlock(0, 1), 2);
         CHECK.due("BLOCK 1 is no more", x.ofBlock(1, 1), IceYard.UNKNOWN);
         CHECK.due("the walls of the new YARD", x.would(0, 2), 11);
+        Check.lay(x, "i33;..o;...;..c");
+        CHECK.due("a CRACK of the new YARD", x.would(0, 2), IceYard.GONE);
+        Check.lay(x, "i33;..o;...;...");
+        CHECK.due("none in the next one", x.would(0, 2), 8);
+        CHECK.due("nor FILLED", x.push(0, 2), 8);
     }
 
     private static void lanes() {
