@@ -928,6 +928,13 @@ public final class IceYard {
 
         /** The first PUSH by which the boy, whose turn it is, wins within so many turns. */
         int winningPush(long yard, int boy, int turns) {
+            return turns > MOST_TURNS ? NONE : pushThatWins(yard, boy, turns);
+        }
+
+        private int pushThatWins(long yard, int boy, int turns) {
+            if (turns < 1) {
+                return NONE;
+            }
             for (int k = 0; k < ground.blocks; k++) {
                 for (int d = 0; d < DIRECTIONS; d++) {
                     if (!slider.goes(yard, k, d)) {
@@ -955,7 +962,7 @@ public final class IceYard {
                     if (home == boy) {
                         continue;
                     }
-                    if (home >= 0 || turns < 2 || winningPush(slider.after, boy, turns - 1) < 0) {
+                    if (home >= 0 || pushThatWins(slider.after, boy, turns - 1) < 0) {
                         return false;
                     }
                 }

@@ -7,7 +7,7 @@ public final class ModelTest {
     private static final Check CHECK = new Check("ModelTest");
 
     public static void main(String[] args) {
-        int yards = args.length > 0 ? Integer.parseInt(args[0]) : 600;
+        int yards = args.length > 0 ? Integer.parseInt(args[0]) : 1200;
         Random random = new Random(args.length > 1 ? Long.parseLong(args[1]) : 7);
         for (int i = 0; i < yards; i++) {
             run(random, i % 2 == 0 ? randomText(random) : narrowText(random));
@@ -68,8 +68,8 @@ public final class ModelTest {
         List<PlainYard> before = new ArrayList<>();
         PlainYard image = null;
         String told = text;
-        compare(told, x, plain, random);
-        for (int step = 0; step < 6; step++) {
+        int steps = random.nextInt(7);
+        for (int step = 0; step < steps; step++) {
             int k = random.nextInt(plain.kinds.length + 1);
             int d = random.nextInt(4);
             told = told + " " + (10 * k + d);
@@ -103,9 +103,16 @@ public final class ModelTest {
                 before.clear();
             }
             CHECK.due(told + " many(4)", x.many(4), before.size());
-            compareState(told, x, plain);
+            comparePlaces(told, x, plain);
         }
         compare(told, x, plain, random);
+    }
+
+    private static void comparePlaces(String told, IceYard x, PlainYard plain) {
+        for (int j = 0; j < plain.kinds.length; j++) {
+            CHECK.due(told + " where " + j, x.ofBlock(j, 1), plain.where[j]);
+        }
+        CHECK.due(told + " cracks", x.many(3), plain.openCracks());
     }
 
     private static void compareState(String told, IceYard x, PlainYard plain) {
@@ -114,7 +121,6 @@ public final class ModelTest {
         }
         for (int k = 0; k < plain.kinds.length; k++) {
             CHECK.due(told + " kind " + k, x.ofBlock(k, 0), plain.kinds[k]);
-            CHECK.due(told + " where " + k, x.ofBlock(k, 1), plain.where[k]);
             for (int d = 0; d < 4; d++) {
                 PlainYard.Pushed p = plain.push(k, d);
                 CHECK.due(told + " would " + k + d, x.would(k, d), p == null ? PlainYard.STATE : p.yard.where[k]);
@@ -122,7 +128,7 @@ public final class ModelTest {
                 CHECK.due(told + " tracks " + k + d, x.tracks(k, d), tracks);
             }
         }
-        CHECK.due(told + " cracks", x.many(3), plain.openCracks());
+        comparePlaces(told, x, plain);
         for (int hour = 0; hour <= 20; hour++) {
             CHECK.due(told + " thaw " + hour, x.thaw(hour), plain.thaw(hour));
         }
@@ -140,7 +146,7 @@ public final class ModelTest {
             }
         }
         compareRows(told + " rows", x, plain, random);
-        compareState(told + " after the questions", x, plain);
+        comparePlaces(told + " after the questions", x, plain);
     }
 
     private static void compareFewest(String told, IceYard x, PlainYard plain, int gate) {

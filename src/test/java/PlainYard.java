@@ -19,6 +19,8 @@ final class PlainYard {
     boolean[] filled;
     int[] kinds;
     int[] where;
+    /** How many YARDS fewest() has come to. */
+    int comeTo;
 
     PlainYard(String text) {
         high = text.charAt(1) - '0';
@@ -140,12 +142,17 @@ final class PlainYard {
 
     /** {SPENT}, {NONE} or the row. */
     int[] fewest(int gate) {
+        return fewest(gate, 1500);
+    }
+
+    int[] fewest(int gate, int most) {
         List<PlainYard> yards = new ArrayList<>();
         List<int[]> rows = new ArrayList<>();
         Set<String> seen = new HashSet<>();
         yards.add(this);
         rows.add(new int[0]);
         seen.add(alike());
+        comeTo = 1;
         for (int i = 0; i < yards.size(); i++) {
             for (int k = 0; k < kinds.length; k++) {
                 for (int d = 0; d < 4; d++) {
@@ -161,7 +168,8 @@ final class PlainYard {
                     if (seen.add(p.yard.alike())) {
                         yards.add(p.yard);
                         rows.add(row);
-                        if (yards.size() > 1500) {
+                        comeTo = yards.size();
+                        if (comeTo > most) {
                             return new int[] {SPENT};
                         }
                     }

@@ -7,10 +7,14 @@ public final class PushTest {
         strikes();
         chains();
         sandAndCracks();
+        nextCell();
+        onSand();
         refusals();
         full();
+        fullAndThen();
         undo();
         images();
+        eachImage();
         CHECK.end();
     }
 
@@ -111,6 +115,59 @@ public final class PushTest {
         CHECK.due("a GATE takes another one", x.push(0, 1), -20);
     }
 
+    /** What lies just behind a BLOCK's CELL, on each side: one CELL is as many as it takes to be a PUSH. */
+    private static void nextCell() {
+        int[] next = {1, 5, 7, 3};
+        for (int d = 0; d < 4; d++) {
+            StringBuilder text = new StringBuilder("i33;###;#o#;###");
+            int p = 4 + next[d] / 3 * 4 + next[d] % 3;
+            int[] want = {next[d], IceYard.STATE, next[d], IceYard.GONE, -20, -21};
+            for (int sign = 0; sign < want.length; sign++) {
+                text.setCharAt(p, ".#scab".charAt(sign));
+                for (int other = 0; other < 4; other++) {
+                    if (other != d) {
+                        pushed(text.toString(), 0, other, IceYard.STATE);
+                    } else if (sign == 1) {
+                        pushed(text.toString(), 0, d, IceYard.STATE);
+                    } else {
+                        pushed(text.toString(), 0, d, want[sign], next[d]);
+                    }
+                }
+            }
+        }
+        // The YARD's end, on each side.
+        for (String kind : new String[] {"o", "l", "d"}) {
+            pushed("i33;" + kind + "#.;#..;...", 0, 0, IceYard.STATE);
+            pushed("i33;" + kind + "#.;#..;...", 0, 3, IceYard.STATE);
+            pushed("i33;...;..#;.#" + kind, 0, 1, IceYard.STATE);
+            pushed("i33;...;..#;.#" + kind, 0, 2, IceYard.STATE);
+        }
+    }
+
+    private static void onSand() {
+        IceYard x = pushed("i34;dso.;....;....", 0, 1, 1, 1, 3);
+        CHECK.due("a SLEDGE that stays on SAND has struck", x.ofBlock(1, 1), 3);
+        CHECK.due("it lies on SAND", x.at(1), 10);
+        CHECK.due("from it to the left", x.tracks(0, 3), Check.set(0));
+        CHECK.due("a SLEDGE goes on from SAND", x.push(0, 1), 2);
+        CHECK.due("SAND stays SAND", x.at(1), 2);
+        x = pushed("i34;dss.;....;....", 0, 1, 3, 1, 2, 3);
+        x = pushed("i34;ls..;....;....", 0, 1, 1, 1);
+        CHECK.due("a LOG goes on from SAND by the next PUSH", x.push(0, 1), 3);
+        CHECK.due("SAND stays SAND", x.at(1), 2);
+        x = pushed("i34;osc.;....;....", 0, 1, 1, 1);
+        CHECK.due("from SAND into the CRACK", x.push(0, 1), IceYard.GONE);
+        x = pushed("i34;lsob;....;....", 0, 1, 1, 1);
+        CHECK.due("it did not strike", x.ofBlock(1, 1), 2);
+        CHECK.due("TRACKS are of the one that it strikes then", x.tracks(0, 1), Check.set(3));
+        CHECK.due("it stays", x.push(0, 1), 1);
+        CHECK.due("what it struck is HOME", x.ofBlock(1, 1), -21);
+        // What is struck stops on SAND, too, and strikes nothing there.
+        x = pushed("i35;llsl.;.....;.....", 0, 1, 0, 2);
+        CHECK.due("struck, to the SAND", x.ofBlock(1, 1), 2);
+        CHECK.due("ahead of the next", x.ofBlock(2, 1), 3);
+    }
+
     private static void refusals() {
         IceYard x = Check.yardOf("i33;o..;...;..o");
         CHECK.due("push UNKNOWN ahead of OUTSIDE", x.push(2, 4), IceYard.UNKNOWN);
@@ -149,6 +206,40 @@ public final class PushTest {
         CHECK.due("FULL again", x.push(0, 0), IceYard.FULL);
         CHECK.due("undo all", x.undo(200), 0);
         CHECK.due("as at first", x.ofBlock(0, 1), 0);
+    }
+
+    /** PUSHES are none by an IMAGE and by a new YARD: then there is room for 200 again. */
+    private static void fullAndThen() {
+        IceYard x = filled();
+        CHECK.due("FULL", x.push(0, 1), IceYard.FULL);
+        CHECK.due("undo 201", x.undo(201), IceYard.OUTSIDE);
+        CHECK.due("keep is not FULL", x.keep(1), 1);
+        CHECK.due("back", x.back(1), 1);
+        CHECK.due("none", x.many(4), 0);
+        for (int i = 0; i < 200; i++) {
+            CHECK.due("push after back " + i, x.push(0, i % 2 == 0 ? 1 : 3), i % 2 == 0 ? 2 : 0);
+        }
+        CHECK.due("FULL again", x.push(0, 1), IceYard.FULL);
+        CHECK.due("the IMAGE stays", x.back(1), 1);
+        x = filled();
+        Check.lay(x, "i33;o..;...;...");
+        CHECK.due("none in the new YARD", x.many(4), 0);
+        CHECK.due("a PUSH in it", x.push(0, 1), 2);
+        x = filled();
+        CHECK.due("undo 200", x.undo(200), 0);
+        CHECK.due("undo 1 of none", x.undo(1), IceYard.OUTSIDE);
+        CHECK.due("undo 0 of none", x.undo(0), 0);
+        CHECK.due("a PUSH after all were taken back", x.push(0, 2), 6);
+        CHECK.due("undo it", x.undo(1), 0);
+        CHECK.due("as at first", x.ofBlock(0, 1), 0);
+    }
+
+    private static IceYard filled() {
+        IceYard x = Check.yardOf("i33;o..;...;...");
+        for (int i = 0; i < 200; i++) {
+            x.push(0, i % 2 == 0 ? 1 : 3);
+        }
+        return x;
     }
 
     private static void undo() {
@@ -204,5 +295,37 @@ public final class PushTest {
         CHECK.due("undo goes back to the IMAGE", x.ofBlock(1, 1), 5);
         CHECK.due("back 0", x.back(0), 1);
         CHECK.due("the later one", x.ofBlock(1, 1), 9);
+    }
+
+    /** Three IMAGES, each by itself, kept again, and brought more than once. */
+    private static void eachImage() {
+        IceYard x = Check.yardOf("i33;o..;...;...");
+        for (int i = 0; i < 3; i++) {
+            CHECK.due("none yet: back " + i, x.back(i), IceYard.STATE);
+        }
+        int[] cells = {0, 2, 8};
+        for (int i = 0; i < 3; i++) {
+            CHECK.due("keep " + i, x.keep(i), 1);
+            x.push(0, 1 + i);
+        }
+        for (int turn = 0; turn < 2; turn++) {
+            for (int i = 2; i >= 0; i--) {
+                CHECK.due("back " + i, x.back(i), 1);
+                CHECK.due("IMAGE " + i, x.ofBlock(0, 1), cells[i]);
+                CHECK.due("at " + cells[i], x.at(cells[i]), 10);
+                CHECK.due("PUSHES are none", x.many(4), 0);
+                x.push(0, i == 2 ? 0 : 2);
+            }
+        }
+        CHECK.due("keep 0 again", x.keep(0), 1);
+        CHECK.due("back 1", x.back(1), 1);
+        CHECK.due("IMAGE 1 as it was", x.ofBlock(0, 1), 2);
+        CHECK.due("back 0", x.back(0), 1);
+        CHECK.due("IMAGE 0 as it was kept last", x.ofBlock(0, 1), 6);
+        for (int i : new int[] {Integer.MIN_VALUE, -1, 3, Integer.MAX_VALUE}) {
+            CHECK.due("keep " + i, x.keep(i), IceYard.UNKNOWN);
+            CHECK.due("back " + i, x.back(i), IceYard.UNKNOWN);
+        }
+        CHECK.due("they changed nothing", x.ofBlock(0, 1), 6);
     }
 }

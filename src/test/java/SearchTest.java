@@ -5,7 +5,11 @@ public final class SearchTest {
     public static void main(String[] args) {
         fewest();
         spent();
+        yardsComeTo();
+        severalGates();
         games();
+        wonInThree();
+        noneCanPush();
         again();
         CHECK.end();
     }
@@ -67,6 +71,93 @@ public final class SearchTest {
         }
         // 1499 come ahead of the first row.
         CHECK.due("late", Check.yardOf("i64;.s#b;llac;.o..;...s;....;...c").fewest(1, -1), 7);
+    }
+
+    /** As many YARDS as there may be, and one more: none ahead of which one comes HOME, and one. */
+    private static void yardsComeTo() {
+        yardsComeTo("i35;l...#;o..o#;.....", 0, 1500, IceYard.NONE);
+        yardsComeTo("i35;....l;.o...;.#.#o", 1, 1500, IceYard.NONE);
+        yardsComeTo("i35;sdcld;.c...;.....", 0, 1501, IceYard.SPENT);
+        yardsComeTo("i35;sdcld;.c...;.....", 1, 1501, IceYard.SPENT);
+        String last = "i46;...o..;....o.;#.#.do;b.##..";
+        yardsComeTo(last, 1, 1500, 5);
+        fewestOf(last, 1, 3, 2, 13, 12, 13);
+        yardsComeTo("i46;...o..;....o.;#.#.do;b..#..", 1, 1501, IceYard.SPENT);
+        // The one that is counts, also where it is the only one.
+        yardsComeTo("i33;###;#o#;###", 0, 1, IceYard.NONE);
+        yardsComeTo("i33;...;...;...", 0, 1, IceYard.NONE);
+    }
+
+    private static void yardsComeTo(String text, int gate, int yards, int want) {
+        PlainYard plain = new PlainYard(text);
+        plain.fewest(gate, 5000);
+        CHECK.due(text + " YARDS come to for " + gate, plain.comeTo, yards);
+        CHECK.due(text + " fewest " + gate, Check.yardOf(text).fewest(gate, -1), want);
+    }
+
+    /** CELLS of one GATE are one GATE, and those of the other one are not. */
+    private static void severalGates() {
+        fewestOf("i33;oaa;...;..b", 0, 1);
+        fewestOf("i33;a.o;...;a.b", 0, 3);
+        fewestOf("i33;a.o;...;b.a", 0, 2);
+        fewestOf("i33;b.o;...;b.b", 0);
+        fewestOf("i33;b.o;...;b.b", 1, 2);
+        IceYard x = Check.yardOf("i34;ao.a;bo.b;a..b");
+        CHECK.due("one GATE 0", x.push(0, 3), -20);
+        CHECK.due("one GATE 1", x.push(1, 3), -21);
+        x.undo(2);
+        CHECK.due("the other GATE 0", x.push(0, 1), -20);
+        CHECK.due("the other GATE 1", x.push(1, 1), -21);
+        for (int c : new int[] {0, 3, 8}) {
+            CHECK.due("GATE 0 at " + c, x.at(c), 4);
+        }
+        for (int c : new int[] {4, 7, 11}) {
+            CHECK.due("GATE 1 at " + c, x.at(c), 5);
+        }
+    }
+
+    private static void wonInThree() {
+        // Up; the other one can only PUSH it down again, to the bottom; then left.
+        game("i33;#.#;slb;a.#", 0, 3, 0);
+        game("i33;#.#;slb;a.#", 1, 1, 1);
+        // To the left; the other one can only PUSH it back to the right end; then up, by PUSH 0.
+        game("i33;#sa;.l.;#b#", 0, 3, 3);
+        // The CRACK is FILLED, and the other one can only PUSH the SLEDGE over it, HOME by the boy's GATE;
+        // but not where a LOG can come HOME by his own ahead of that.
+        game("i34;#b##;oc.a;#d#.", 1, 2, 1);
+        game("i34;#b#l;oc.a;#d#.", 1, IceYard.NONE, IceYard.NONE);
+        game("i33;aco;b.o;#l#", 0, IceYard.NONE, IceYard.NONE);
+        game("i34;.##.;o..s;sbc#", 1, 3, 0);
+        game("i33;###;dca;l##", 0, 3, 1);
+        game("i34;#d##;aco.;###.", 0, 3, 2);
+        game("i35;####.;b#.l.;###.a", 0, 3, 3);
+        game("i35;d.##.;#b.c#;###o#", 1, 3, 10);
+        game("i35;###.o;dc..#;#.#a#", 0, 3, 11);
+        game("i35;##d#d;.#.ac;####.", 0, 3, 12);
+        game("i34;###.;l.l.;###b", 1, 3, 13);
+        // In one by PUSH 0.
+        game("i33;a##;oca;#s#", 0, 1, 0);
+        game("i34;####;#s.b;#b#l", 1, 1, 0);
+        // In one by 11 and by 13: the least is told.
+        game("i34;a...;.o..;aoa#", 0, 1, 11);
+    }
+
+    /** Who can't PUSH passes, and so does the other one: nothing is won by it. */
+    private static void noneCanPush() {
+        game("i33;###;oc#;###", 0, IceYard.NONE, IceYard.NONE);
+        game("i33;###;oc#;###", 1, IceYard.NONE, IceYard.NONE);
+        game("i33;###;oca;###", 0, IceYard.NONE, IceYard.NONE);
+        game("i33;###;oa#;###", 1, IceYard.NONE, IceYard.NONE);
+        IceYard x = Check.yardOf("i33;###;oca;###");
+        x.push(0, 1);
+        CHECK.due("GONE: won 0", x.won(0), IceYard.NONE);
+        CHECK.due("GONE: first 0", x.first(0), IceYard.NONE);
+        CHECK.due("GONE: fewest", x.fewest(0, -1), IceYard.NONE);
+        x = Check.yardOf("i33;###;oa#;###");
+        x.push(0, 1);
+        CHECK.due("HOME ahead of the call: won 0", x.won(0), IceYard.NONE);
+        CHECK.due("HOME ahead of the call: first 0", x.first(0), IceYard.NONE);
+        CHECK.due("HOME ahead of the call: fewest", x.fewest(0, 0), IceYard.NONE);
     }
 
     private static void game(String text, int boy, int won, int first) {

@@ -7,7 +7,11 @@ public final class SheetTest {
         lose();
         putAndCell();
         copy();
+        copyOfAllCells();
+        cutToTheLane();
+        everySheet();
         fault();
+        faultOfEachCall();
         CHECK.end();
     }
 
@@ -161,5 +165,140 @@ public final class SheetTest {
         x.put(0, 7, 0);
         x.copy(0, 0, 9, 0, 0);
         CHECK.due("a refused copy", x.fault(), 0);
+    }
+
+    /** 60 cells, and none. */
+    private static void copyOfAllCells() {
+        IceYard x = new IceYard();
+        x.sheet(0, 1, 60);
+        x.sheet(3, 1, 60);
+        x.sheet(2, 1, 0);
+        for (int i = 0; i < 60; i++) {
+            x.put(0, i, 1000 * i - 30000);
+        }
+        due(x, "all to another one", x.copy(0, 0, 3, 0, 60), 60, 0);
+        due(x, "one too many", x.copy(0, 0, 3, 0, 61), -13, 3);
+        due(x, "all, one farther on", x.copy(0, 1, 3, 0, 60), -13, 3);
+        due(x, "all, to one farther on", x.copy(0, 0, 3, 1, 60), -13, 3);
+        due(x, "all but one, farther on in itself", x.copy(0, 0, 0, 1, 59), 59, 0);
+        for (int i = 0; i < 60; i++) {
+            CHECK.due("copied " + i, x.cell(3, i, 1), 1000 * i - 30000);
+            CHECK.due("moved " + i, x.cell(0, i, 1), 1000 * Math.max(0, i - 1) - 30000);
+        }
+        due(x, "none from the end to the end", x.copy(0, 60, 3, 60, 0), 0, 0);
+        due(x, "none from beyond", x.copy(0, 61, 3, 60, 0), -13, 3);
+        due(x, "none to beyond", x.copy(0, 60, 3, 61, 0), -13, 3);
+        due(x, "the last", x.copy(0, 59, 3, 0, 1), 1, 0);
+        due(x, "to the last", x.copy(0, 0, 3, 59, 1), 1, 0);
+        due(x, "one behind the last", x.copy(0, 60, 3, 0, 1), -13, 3);
+        due(x, "none to a row that has none", x.copy(0, 0, 2, 0, 0), 0, 0);
+        due(x, "none of a row that has none", x.copy(2, 0, 2, 0, 0), 0, 0);
+        due(x, "one of a row that has none", x.copy(2, 0, 0, 0, 1), -13, 3);
+        due(x, "to a row that has none, farther on", x.copy(0, 0, 2, 1, 0), -13, 3);
+        for (int least : new int[] {Integer.MIN_VALUE, -1}) {
+            due(x, "i " + least, x.copy(0, least, 3, 0, 1), -13, 3);
+            due(x, "j " + least, x.copy(0, 0, 3, least, 1), -13, 3);
+            due(x, "n " + least, x.copy(0, 1, 3, 1, least), -13, 3);
+        }
+        int most = Integer.MAX_VALUE;
+        due(x, "i and n the most", x.copy(0, most, 3, 0, most), -13, 3);
+        due(x, "j and n the most", x.copy(0, 0, 3, most, most), -13, 3);
+        due(x, "all the most", x.copy(0, most, 3, most, most), -13, 3);
+        CHECK.due("none of them changed it", x.cell(3, 1, 1), -29000);
+    }
+
+    /** The numbers themselves: the last that fits a LANE and the first that does not. */
+    private static void cutToTheLane() {
+        IceYard x = new IceYard();
+        for (int lane = 0; lane < 3; lane++) {
+            x.sheet(lane, lane, 1);
+        }
+        long[][] cut = {{127, 127, 127, 127}, {128, -128, 128, 128}, {-128, -128, -128, -128},
+            {-129, 127, -129, -129}, {255, -1, 255, 255}, {256, 0, 256, 256}, {-256, 0, -256, -256},
+            {32767, -1, 32767, 32767}, {32768, 0, -32768, 32768}, {-32768, 0, -32768, -32768},
+            {-32769, -1, 32767, -32769}, {65535, -1, -1, 65535}, {65536, 0, 0, 65536}, {70001, 113, 4465, 70001},
+            {2147483647, -1, -1, 2147483647}, {-2147483648, 0, 0, -2147483648}, {0, 0, 0, 0}, {-1, -1, -1, -1}};
+        for (long[] row : cut) {
+            for (int lane = 0; lane < 3; lane++) {
+                due(x, "put " + row[0], x.put(lane, 0, (int) row[0]), 1, 0);
+                due(x, row[0] + " cut to lane " + lane, x.cell(lane, 0, lane), row[lane + 1], 0);
+            }
+        }
+    }
+
+    /** Each SHEET by itself: the four that there are, and none beside them. */
+    private static void everySheet() {
+        IceYard x = new IceYard();
+        for (int k = 0; k < 4; k++) {
+            CHECK.due("nothing at first: lose " + k, x.lose(k), 0);
+            due(x, "nothing at first: put " + k, x.put(k, 0, 1), -11, 1);
+            due(x, "nothing at first: cell " + k, x.cell(k, 0, 0), IceYard.LOST, 1);
+            due(x, "nothing at first: yard " + k, x.yard(k, 0, 0, 0), -11, 1);
+            due(x, "sheet " + k, x.sheet(k, k % 3, k + 1), 1, 0);
+            due(x, "its last cell", x.put(k, k, 50 + k), 1, 0);
+            due(x, "none behind it", x.put(k, k + 1, 1), -13, 3);
+        }
+        for (int k = 0; k < 4; k++) {
+            due(x, "cell of " + k, x.cell(k, k, k % 3), 50 + k, 0);
+            due(x, "cell behind it", x.cell(k, k + 1, k % 3), IceYard.LOST, 3);
+            for (int lane = 0; lane < 3; lane++) {
+                due(x, "LANE", x.cell(k, 0, lane), lane != k % 3 ? IceYard.LOST : k == 0 ? 50 : 0,
+                    lane == k % 3 ? 0 : 2);
+            }
+        }
+        for (int k = 0; k < 4; k++) {
+            for (int other = 0; other < 4; other++) {
+                boolean alike = k % 3 == other % 3;
+                due(x, "copy " + k + " to " + other, x.copy(k, 0, other, 0, 0), alike ? 0 : -12, alike ? 0 : 2);
+            }
+        }
+        CHECK.due("lose 2", x.lose(2), 1);
+        CHECK.due("lose 2 again", x.lose(2), 0);
+        due(x, "3 has still", x.cell(3, 3, 0), 53, 0);
+        due(x, "1 has still", x.cell(1, 1, 1), 51, 0);
+        for (int k : new int[] {Integer.MIN_VALUE, -1, 4, Integer.MAX_VALUE}) {
+            due(x, "sheet " + k, x.sheet(k, 0, 1), IceYard.UNKNOWN, 0);
+            CHECK.due("lose " + k, x.lose(k), IceYard.UNKNOWN);
+            due(x, "put " + k, x.put(k, 0, 1), IceYard.UNKNOWN, 0);
+            due(x, "cell " + k, x.cell(k, 0, 0), IceYard.LOST, 0);
+            due(x, "yard " + k, x.yard(k, 0, 0, 0), IceYard.UNKNOWN, 0);
+            due(x, "copy of " + k, x.copy(k, 0, 0, 0, 0), IceYard.UNKNOWN, 0);
+            due(x, "copy to " + k, x.copy(0, 0, k, 0, 0), IceYard.UNKNOWN, 0);
+        }
+    }
+
+    /** fault() after each call that names FAULTS, done and refused; and after each that names none. */
+    private static void faultOfEachCall() {
+        IceYard x = Check.yardOf("i34;o..a;l..c;....");
+        x.sheet(0, 0, 1);
+        afterAFault(x, "yard", Check.lay(x, "i34;o..a;l..c;...."), 2, 0);
+        afterAFault(x, "yard refused", x.yard(4, 0, 0, 0), IceYard.UNKNOWN, 0);
+        afterAFault(x, "yard no TEXT", x.yard(3, 2, 1, 1), -100, 0);
+        afterAFault(x, "sheet", x.sheet(1, 0, 1), 1, 0);
+        afterAFault(x, "sheet refused", x.sheet(1, 3, 1), IceYard.OUTSIDE, 0);
+        afterAFault(x, "put", x.put(0, 0, 1), 1, 0);
+        afterAFault(x, "put refused", x.put(4, 0, 1), IceYard.UNKNOWN, 0);
+        afterAFault(x, "cell", x.cell(0, 0, 0), 1, 0);
+        afterAFault(x, "cell refused", x.cell(4, 0, 0), IceYard.LOST, 0);
+        afterAFault(x, "cell refused by its LANE", x.cell(0, 0, 3), IceYard.LOST, 0);
+        afterAFault(x, "copy", x.copy(0, 0, 1, 0, 1), 1, 0);
+        afterAFault(x, "copy refused", x.copy(0, 0, 4, 0, 1), IceYard.UNKNOWN, 0);
+        afterAFault(x, "as", x.as(1, 1), 1, 0);
+        afterAFault(x, "as refused", x.as(2, 1), IceYard.UNKNOWN, 0);
+        x.put(0, 1, 0);
+        long[] calls = {x.at(0), x.at(-1), x.ofBlock(0, 1), x.ofBlock(9, 1), x.would(0, 1), x.would(9, 1),
+            x.tracks(0, 1), x.tracks(9, 1), x.push(1, 1), x.push(1, 1), x.push(9, 1), x.undo(1), x.undo(1), x.keep(0),
+            x.keep(3), x.back(0), x.back(1), x.fewest(0, -1), x.fewest(2, -1), x.won(0), x.won(2), x.first(0),
+            x.first(2), x.rows(1, 0, -1), x.rows(0, 0, -1), x.sand(0, 0, 1, -1), x.sand(9, 0, 1, -1), x.thaw(0),
+            x.thaw(-1), x.lose(2), x.lose(1), x.lose(4), x.tell(0), x.tell(9), x.kick(0), x.kick(9), x.trace(),
+            x.many(0), x.many(-1)};
+        CHECK.due("none of " + calls.length + " calls that name no FAULT changes it", x.fault(), 3);
+        CHECK.due("nor does fault()", x.fault(), 3);
+    }
+
+    /** The call has been made: its answer and fault() then; a FAULT is made ahead of the next one. */
+    private static void afterAFault(IceYard x, String call, long got, long want, int fault) {
+        due(x, call, got, want, fault);
+        due(x, "a FAULT ahead of the next call", x.put(0, 1, 0), -13, 3);
     }
 }

@@ -4,10 +4,13 @@ public final class TrailTest {
 
     public static void main(String[] args) {
         rows();
+        rowsAtTheEdges();
         rowRefusals();
         sand();
+        sandAtTheEdges();
         sandRefusals();
         thaw();
+        thawOfEachHeight();
         CHECK.end();
     }
 
@@ -41,6 +44,46 @@ public final class TrailTest {
         rowsOf(Check.yardOf("i34;o..a;####;####"), 1, Check.set(1, 2, 3), 1, 1);
         rowsOf(Check.yardOf("i66;......;......;......;......;......;o....c"), 1,
             Check.set(31, 32, 33, 34, 35), 1, 1);
+    }
+
+    /** All CELLS of the largest YARD, and none beyond; a YARD that has none; the most and the fewest PUSHES. */
+    private static void rowsAtTheEdges() {
+        IceYard x = Check.yardOf("i66;......;......;......;......;......;o.....");
+        rowsOf(x, 1, Check.set(31, 32, 33, 34, 35), 1, 1);
+        rowsOf(x, 2, Check.set(31, 32, 33, 34, 35, 29, 23, 17, 11, 5), 1, 1, 0);
+        rowsOf(x, 1, (1L << 36) - 1, 0);
+        CHECK.due("a bit of CELL 36", x.rows(1, 1L << 36, -1), IceYard.OUTSIDE);
+        CHECK.due("and of others", x.rows(1, 1L << 36 | 62, -1), IceYard.OUTSIDE);
+        CHECK.due("bit 62", x.rows(1, 1L << 62, -1), IceYard.OUTSIDE);
+        CHECK.due("bit 63", x.rows(1, 1L << 63, -1), IceYard.OUTSIDE);
+        CHECK.due("the most", x.rows(1, Long.MAX_VALUE, -1), IceYard.OUTSIDE);
+        x = new IceYard();
+        CHECK.due("without a YARD, none", x.rows(3, 0, -1), 0);
+        CHECK.due("without a YARD, none, q 2", x.rows(3, 0, 2), IceYard.NONE);
+        CHECK.due("without a YARD, q 3", x.rows(3, 0, 3), IceYard.UNKNOWN);
+        CHECK.due("without a YARD, a bit", x.rows(3, 1, -1), IceYard.OUTSIDE);
+        // Up and down on three CELLS: the third PUSH leaves nothing new.
+        x = Check.yardOf("i33;#.#;#.#;#o#");
+        rowsOf(x, 1, Check.set(1, 4), 1, 0);
+        rowsOf(x, 2, Check.set(1, 4), 0);
+        rowsOf(x, 2, Check.set(1, 4, 7), 1, 0, 2);
+        rowsOf(x, 3, Check.set(1, 4, 7), 1, 0, 2, 0);
+        // After the only PUSH none is left.
+        x = Check.yardOf("i33;###;oc#;###");
+        rowsOf(x, 1, Check.set(4), 1, 1);
+        rowsOf(x, 2, Check.set(4), 0);
+        x.push(0, 1);
+        x.keep(0);
+        x.back(0);
+        rowsOf(x, 1, Check.set(4), 0);
+        rowsOf(x, 1, 0, 0);
+        rowsOf(x, 3, 0, 0);
+        // Six BLOCKS, each by itself to the right, or two or three of them, in any order;
+        // where BLOCK 1 goes to the right and up and BLOCK 5 to the right, the TRACKS are the same.
+        x = Check.yardOf("i63;#o.;#o.;#o.;#o.;#o.;#o.");
+        rowsOf(x, 1, Check.set(17), 1, 51);
+        rowsOf(x, 2, Check.set(2, 17), 2, 1, 51);
+        rowsOf(x, 3, Check.set(2, 5, 17), 9, 1, 11, 51);
     }
 
     private static void rowRefusals() {
@@ -112,6 +155,40 @@ public final class TrailTest {
         sandOf(x, 0, 0, 2, IceYard.NONE);
     }
 
+    private static void sandAtTheEdges() {
+        // Each way to the GATE, from where only SAND lets it stop.
+        sandOf(Check.yardOf("i44;....;o...;....;#a##"), 0, 0, 2, 1, 5);
+        sandOf(Check.yardOf("i44;#a##;....;o...;...."), 0, 0, 2, 1, 9);
+        sandOf(Check.yardOf("i44;..o.;...#;...b;...#"), 0, 1, 2, 1, 10);
+        sandOf(Check.yardOf("i44;.o..;#...;b...;#..."), 0, 1, 2, 1, 9);
+        // It would have to be put where another BLOCK lies, or on SAND that is there.
+        sandOf(Check.yardOf("i44;....;ol..;....;#a##"), 0, 0, 2, IceYard.NONE);
+        sandOf(Check.yardOf("i44;....;os..;....;#a##"), 0, 0, 2, 0);
+        // Within one PUSH no SAND helps.
+        sandOf(Check.yardOf("i44;....;o...;....;#a##"), 0, 0, 1, IceYard.NONE);
+        sandOf(Check.yardOf("i44;....;o...;....;#a##"), 0, 1, 2, IceYard.NONE);
+        // By the PUSH of a LOG that strikes it, and by that of another BLOCK first, which clears the way.
+        sandOf(Check.yardOf("i34;l.oa;####;####"), 1, 0, 1, 0);
+        sandOf(Check.yardOf("i34;o.oa;##.#;####"), 0, 0, 2, 0);
+        sandOf(Check.yardOf("i34;o.oa;##.#;####"), 0, 0, 1, IceYard.NONE);
+        // The last BLOCK of six, in the largest YARD.
+        IceYard x = Check.yardOf("i66;ooooo.;####..;####..;####..;##o...;#####b");
+        CHECK.due("sand of the last BLOCK", x.sand(5, 1, 2, -1), 0);
+        x = Check.yardOf("i66;ooooo#;####.#;####.#;####.#;##o...;####b#");
+        sandOf(x, 5, 1, 2, 1, 28);
+        sandOf(x, 4, 1, 1, 0);
+        sandOf(x, 4, 0, 2, IceYard.NONE);
+        // NONE of one that is HOME, and of one that is GONE, by either GATE.
+        x = Check.yardOf("i34;o..a;o..c;o.ab");
+        x.push(0, 1);
+        x.push(1, 1);
+        for (int gate = 0; gate < 2; gate++) {
+            sandOf(x, 0, gate, 1, IceYard.NONE);
+            sandOf(x, 1, gate, 2, IceYard.NONE);
+        }
+        sandOf(x, 2, 0, 1, 0);
+    }
+
     private static void sandRefusals() {
         IceYard x = Check.yardOf("i33;o.a;...;..b");
         CHECK.due("BLOCK 1", x.sand(1, 0, 1, -1), IceYard.UNKNOWN);
@@ -143,5 +220,30 @@ public final class TrailTest {
         x.push(2, 0);
         CHECK.due("it lies higher", x.thaw(5), 0);
         CHECK.due("it lies in the third row", x.thaw(6), 4);
+    }
+
+    /** The r-th row from below melts in HOUR 2 r, not in the one ahead of it; more HOURS than rows lose no more. */
+    private static void thawOfEachHeight() {
+        for (int high = 3; high <= 6; high++) {
+            StringBuilder text = new StringBuilder("i").append(high).append("3");
+            for (int y = 0; y < high; y++) {
+                text.append(";.o.");
+            }
+            IceYard x = Check.yardOf(text.toString());
+            int lost = 0;
+            for (int r = 1; r <= 10; r++) {
+                CHECK.due(text + " thaw " + (2 * r - 1), x.thaw(2 * r - 1), lost);
+                lost |= r <= high ? 1 << (high - r) : 0;
+                CHECK.due(text + " thaw " + 2 * r, x.thaw(2 * r), lost);
+            }
+            CHECK.due(text + " thaw 0", x.thaw(0), 0);
+            CHECK.due(text + " thaw 21", x.thaw(21), IceYard.OUTSIDE);
+        }
+        IceYard x = new IceYard();
+        CHECK.due("without a YARD: thaw 0", x.thaw(0), 0);
+        CHECK.due("without a YARD: thaw 20", x.thaw(20), 0);
+        CHECK.due("without a YARD: thaw 21", x.thaw(21), IceYard.OUTSIDE);
+        CHECK.due("without a YARD: thaw -1", x.thaw(-1), IceYard.OUTSIDE);
+        CHECK.due("a YARD that has no BLOCK", Check.yardOf("i33;###;...;sca").thaw(20), 0);
     }
 }

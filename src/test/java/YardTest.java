@@ -9,6 +9,8 @@ public final class YardTest {
         limits();
         refusals();
         allAnew();
+        cellsAnew();
+        rowsOfAText();
         lanes();
         at();
         ofBlock();
@@ -132,6 +134,58 @@ public final class YardTest {
         CHECK.due("nor FILLED", x.push(0, 2), 8);
     }
 
+    /** Nothing of the CELLS of one YARD is left in the next one. */
+    private static void cellsAnew() {
+        String[] all = {"i33;...;...;...", "i33;###;###;###", "i33;sss;sss;sss", "i33;cc.;.cc;...", "i33;aaa;aaa;aaa",
+            "i33;bbb;bbb;bbb", "i33;...;...;..."};
+        for (String first : all) {
+            IceYard x = Check.yardOf(first);
+            for (String then : all) {
+                Check.lay(x, then);
+                for (int c = 0; c < 9; c++) {
+                    int want = ".#scab".indexOf(then.charAt(4 + c / 3 * 4 + c % 3));
+                    CHECK.due(first + ", then " + then + " at " + c, x.at(c), want);
+                }
+                CHECK.due("CRACKS", x.many(3), then.contains("c") ? 4 : 0);
+                CHECK.due("no BLOCKS", x.many(2), 0);
+                Check.lay(x, first);
+            }
+            Check.lay(x, "i33;o..;...;...");
+            CHECK.due(first + ", then ICE", x.push(0, 1), 2);
+            CHECK.due("TRACKS on it", x.tracks(0, 2), Check.set(5, 8));
+            Check.lay(x, "i33;.o.;.#.;...");
+            CHECK.due(first + ", then a WALL", x.push(0, 2), IceYard.STATE);
+        }
+        // SAND is put on ICE alone, and what was ICE is a FILLED CRACK now.
+        IceYard x = Check.yardOf("i45;.....;.....;.....;.....");
+        Check.lay(x, "i45;o.c.o;.....;.....;##a##");
+        x.push(1, 3);
+        CHECK.due("FILLED", x.at(2), 0);
+        CHECK.due("no SAND on it", x.sand(0, 0, 2, -1), IceYard.NONE);
+    }
+
+    /** Of a SHEET's row a part; a row that has none. */
+    private static void rowsOfAText() {
+        IceYard x = new IceYard();
+        x.sheet(0, 1, 0);
+        CHECK.due("none of a row that has none", x.yard(0, 1, 0, 0), -100);
+        CHECK.due("one of a row that has none", x.yard(0, 1, 0, 1), -13);
+        String text = "i33;o..;...;..l";
+        x.sheet(0, 1, 60);
+        for (int i = 0; i < 15; i++) {
+            x.put(0, 45 + i, text.charAt(i));
+        }
+        CHECK.due("the last 15 of 60", x.yard(0, 1, 45, 15), 2);
+        CHECK.due("one too far", x.yard(0, 1, 46, 15), -13);
+        CHECK.due("one too many", x.yard(0, 1, 45, 16), -13);
+        CHECK.due("one too few", x.yard(0, 1, 45, 14), -114);
+        CHECK.due("one too early", x.yard(0, 1, 44, 15), -100);
+        CHECK.due("one too early, one more", x.yard(0, 1, 44, 16), -100);
+        CHECK.due("none behind the last", x.yard(0, 1, 60, 0), -100);
+        CHECK.due("none farther on", x.yard(0, 1, 61, 0), -13);
+        CHECK.due("the YARD is still that", x.many(2), 2);
+    }
+
     private static void lanes() {
         for (int lane = 0; lane < 3; lane++) {
             IceYard x = new IceYard();
@@ -162,6 +216,22 @@ public final class YardTest {
         CHECK.due("where it was", x.at(2), 0);
         x.push(2, 1);
         CHECK.due("a FILLED CRACK", x.at(13), 0);
+        IceYard other = Check.yardOf("i33;#o#;#c#;#o#");
+        other.push(0, 2);
+        other.push(1, 0);
+        CHECK.due("it went over the FILLED CRACK", other.at(1), 11);
+        other.push(1, 2);
+        CHECK.due("and back", other.at(7), 11);
+        other = Check.yardOf("i33;..#;oco;..#");
+        other.push(0, 1);
+        CHECK.due("it goes on over it", other.push(1, 3), 3);
+        other.undo(2);
+        other = Check.yardOf("i34;o.c#;..o.;....");
+        other.push(1, 0);
+        CHECK.due("FILLED", other.at(2), 0);
+        other.push(0, 1);
+        CHECK.due("a BLOCK on a FILLED CRACK", other.at(2), 10);
+        CHECK.due("none of the CRACKS is open", other.many(3), 0);
         x.push(0, 1);
         CHECK.due("a GATE stays one", x.at(4), 4);
         x.undo(2);
@@ -169,6 +239,7 @@ public final class YardTest {
     }
 
     private static void ofBlock() {
+        mostBlocks();
         IceYard x = Check.yardOf("i34;l..a;o..b;d..c");
         for (int k = 0; k < 3; k++) {
             CHECK.due("kind of " + k, x.ofBlock(k, 0), k == 0 ? 1 : k == 1 ? 0 : 2);
@@ -185,6 +256,32 @@ public final class YardTest {
         CHECK.due("ofBlock HOME 1", x.ofBlock(1, 1), -21);
         CHECK.due("ofBlock GONE", x.ofBlock(2, 1), IceYard.GONE);
         CHECK.due("kind of one that is GONE", x.ofBlock(2, 0), 2);
+    }
+
+    /** The most CELLS, BLOCKS and CRACKS. */
+    private static void mostBlocks() {
+        IceYard x = Check.yardOf("i66;c....c;......;..old.;......;...o..;cl...d");
+        CHECK.due("BLOCKS", x.many(2), 6);
+        CHECK.due("CRACKS", x.many(3), 3);
+        CHECK.due("the last CELL", x.at(35), 15);
+        CHECK.due("one beyond", x.at(36), IceYard.UNKNOWN);
+        CHECK.due("the last BLOCK", x.ofBlock(5, 1), 35);
+        CHECK.due("its kind", x.ofBlock(5, 0), 2);
+        CHECK.due("one more", x.ofBlock(6, 1), IceYard.UNKNOWN);
+        CHECK.due("one more: push", x.push(6, 0), IceYard.UNKNOWN);
+        CHECK.due("one more: would", x.would(6, 0), IceYard.UNKNOWN);
+        CHECK.due("one more: tracks", x.tracks(6, 0), IceYard.LOST);
+        CHECK.due("one more: sand", x.sand(6, 0, 1, 0), IceYard.UNKNOWN);
+        CHECK.due("one more: tell", x.tell(6), IceYard.UNKNOWN);
+        CHECK.due("one more: kick", x.kick(6), IceYard.UNKNOWN);
+        CHECK.due("one more: as", x.as(6, 0), IceYard.UNKNOWN);
+        CHECK.due("the last CELL is lost", x.thaw(2), 1 << 4 | 1 << 5);
+        CHECK.due("from the last CELL up, into the CRACK", x.tracks(5, 0), Check.set(29, 23, 17, 11, 5));
+        CHECK.due("GONE", x.push(5, 0), IceYard.GONE);
+        CHECK.due("the last CELL is ICE", x.at(35), 0);
+        CHECK.due("to the last CELL", x.push(4, 1), 35);
+        CHECK.due("back from it, into the CRACK", x.push(4, 3), IceYard.GONE);
+        CHECK.due("CRACKS left", x.many(3), 1);
     }
 
     private static void many() {
