@@ -117,10 +117,14 @@ public final class YardTest {
         CHECK.due("nor the IMAGES", x.back(0), 1);
         CHECK.due("back", x.ofBlock(0, 1), 2);
         x.push(0, 2);
+        x.keep(1);
+        x.keep(2);
         CHECK.due("a TEXT", Check.lay(x, "i43;..o;...;.c.;..."), 1);
         CHECK.due("no PUSHES", x.many(4), 0);
         CHECK.due("nothing to undo", x.undo(1), IceYard.OUTSIDE);
-        CHECK.due("no IMAGES", x.back(0), IceYard.STATE);
+        for (int i = 0; i < 3; i++) {
+            CHECK.due("no IMAGE " + i, x.back(i), IceYard.STATE);
+        }
         CHECK.due("HIGH", x.many(0), 4);
         CHECK.due("TRACE stays", x.trace(), trace);
         CHECK.due("SHEETS stay", x.cell(3, 0, 2), 'i');
