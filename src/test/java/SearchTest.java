@@ -135,6 +135,9 @@ public final class SearchTest {
         game("i35;###.o;dc..#;#.#a#", 0, 3, 11);
         game("i35;##d#d;.#.ac;####.", 0, 3, 12);
         game("i34;###.;l.l.;###b", 1, 3, 13);
+        // It would be won in three if the boy could pass: but he who can PUSH has to.
+        game("i33;#b#;#sl;###", 1, IceYard.NONE, IceYard.NONE);
+        game("i34;####;b..a;#d##", 1, IceYard.NONE, IceYard.NONE);
         // In one by PUSH 0.
         game("i33;a##;oca;#s#", 0, 1, 0);
         game("i34;####;#s.b;#b#l", 1, 1, 0);

@@ -164,6 +164,8 @@ public final class TrailTest {
         // It would have to be put where another BLOCK lies, or on SAND that is there.
         sandOf(Check.yardOf("i44;....;ol..;....;#a##"), 0, 0, 2, IceYard.NONE);
         sandOf(Check.yardOf("i44;....;os..;....;#a##"), 0, 0, 2, 0);
+        // Behind a WALL, whatever is put.
+        sandOf(Check.yardOf("i33;a#o;###;###"), 0, 0, 2, IceYard.NONE);
         // Within one PUSH no SAND helps.
         sandOf(Check.yardOf("i44;....;o...;....;#a##"), 0, 0, 1, IceYard.NONE);
         sandOf(Check.yardOf("i44;....;o...;....;#a##"), 0, 1, 2, IceYard.NONE);
