@@ -194,8 +194,8 @@ public final class IceYard {
         if (!isGate(boy)) {
             return UNKNOWN;
         }
-        int turns = game.leastTurns(now, boy);
-        return turns < 0 ? NONE : game.winningPush(now, boy, turns);
+        game.leastTurns(now, boy);
+        return game.winning;
     }
 
     // ---- 4 tracks, sand, thaw
@@ -911,6 +911,8 @@ public final class IceYard {
 
         private final Ground ground;
         private final Slider slider;
+        /** The PUSH by which it is won in the least turns, as leastTurns() found it; NONE. */
+        int winning = NONE;
 
         Game(Ground ground, Slider slider) {
             this.ground = ground;
@@ -919,7 +921,8 @@ public final class IceYard {
 
         int leastTurns(long yard, int boy) {
             for (int turns = 1; turns <= MOST_TURNS; turns++) {
-                if (winningPush(yard, boy, turns) >= 0) {
+                winning = winningPush(yard, boy, turns);
+                if (winning >= 0) {
                     return turns;
                 }
             }
@@ -927,12 +930,8 @@ public final class IceYard {
         }
 
         /** The first PUSH by which the boy, whose turn it is, wins within so many turns. */
-        int winningPush(long yard, int boy, int turns) {
-            return turns > MOST_TURNS ? NONE : pushThatWins(yard, boy, turns);
-        }
-
-        private int pushThatWins(long yard, int boy, int turns) {
-            if (turns < 1) {
+        private int winningPush(long yard, int boy, int turns) {
+            if (turns < 1 || turns > MOST_TURNS) {
                 return NONE;
             }
             for (int k = 0; k < ground.blocks; k++) {
@@ -962,7 +961,7 @@ public final class IceYard {
                     if (home == boy) {
                         continue;
                     }
-                    if (home >= 0 || pushThatWins(slider.after, boy, turns - 1) < 0) {
+                    if (home >= 0 || winningPush(slider.after, boy, turns - 1) < 0) {
                         return false;
                     }
                 }

@@ -5,7 +5,9 @@ import java.lang.reflect.Method;
 import java.lang.reflect.Modifier;
 import java.nio.file.Files;
 import java.nio.file.Path;
+import java.util.ArrayList;
 import java.util.Arrays;
+import java.util.List;
 import java.util.TreeSet;
 
 /** The class's face, the rules of the language that can be seen from outside, and promise 1: a new object. */
@@ -23,7 +25,9 @@ public final class FaceTest {
     public static void main(String[] args) throws IOException {
         constants();
         members();
+        shapes();
         words();
+        lengths();
         newObject();
         CHECK.end();
     }
@@ -77,11 +81,51 @@ public final class FaceTest {
         return Modifier.isPrivate(m.getModifiers()) || m.getModifiers() == constant;
     }
 
-    private static void words() throws IOException {
+    /** Static fields are constants of numbers; no method takes more than seven, none stands for Object's. */
+    private static void shapes() {
+        List<Class<?>> all = new ArrayList<>(Arrays.asList(IceYard.class.getDeclaredClasses()));
+        all.add(IceYard.class);
+        for (Class<?> type : all) {
+            for (Field f : type.getDeclaredFields()) {
+                boolean constant = Modifier.isFinal(f.getModifiers()) && f.getType().isPrimitive();
+                CHECK.due(f + " static but a constant", Modifier.isStatic(f.getModifiers()) && !constant ? 1 : 0, 0);
+            }
+            for (Method m : type.getDeclaredMethods()) {
+                CHECK.due(m + " takes more than seven", m.getParameterCount() > 7 ? 1 : 0, 0);
+                boolean ofObject = Arrays.asList("equals", "hashCode", "toString").contains(m.getName());
+                CHECK.due(m + " is Object's", ofObject ? 1 : 0, 0);
+            }
+        }
+    }
+
+    private static String code() throws IOException {
         String source = Files.readString(Path.of("src/main/java/IceYard.java"));
-        String code = source.replaceAll("(?s)/\\*.*?\\*/", "").replaceAll("//[^\n]*", "");
-        for (String word : new String[] {"throw", "try", "catch", "synchronized", "assert", "package", "->", "::"}) {
-            String pattern = word.matches("\\w+") ? "(?s).*\\b" + word + "\\b.*" : "(?s).*" + word + ".*";
+        return source.replaceAll("(?s)/\\*.*?\\*/", "").replaceAll("//[^\n]*", "");
+    }
+
+    /** Some sixty lines a method. A member of the class begins behind 4 blanks, one of a class inside behind 8. */
+    private static void lengths() throws IOException {
+        for (String indent : new String[] {"    ", "        "}) {
+            int since = -1;
+            String head = "";
+            String[] lines = code().split("\n");
+            for (int i = 0; i < lines.length; i++) {
+                if (lines[i].matches(indent + "\\w.*\\) \\{")) {
+                    since = i;
+                    head = lines[i].trim();
+                } else if (lines[i].equals(indent + "}") && since >= 0) {
+                    CHECK.due(head + " is too long", i - since > 60 ? 1 : 0, 0);
+                    since = -1;
+                }
+            }
+        }
+    }
+
+    private static void words() throws IOException {
+        String code = code();
+        for (String word : new String[] {"throw", "throws", "try", "catch", "synchronized", "assert", "package", "double",
+            "float", "Object", "System.out", "\\w+Exact", "Random", "Thread", "->", "::"}) {
+            String pattern = word.matches(".*\\w") ? "(?s).*\\b" + word + "\\b.*" : "(?s).*" + word + ".*";
             CHECK.due("'" + word + "' in the source", code.matches(pattern) ? 1 : 0, 0);
         }
         String rest = code.replace("import java.util.Arrays;", "");

@@ -9,6 +9,7 @@ public final class PushTest {
         sandAndCracks();
         nextCell();
         onSand();
+        struckOnItsWay();
         refusals();
         full();
         fullAndThen();
@@ -166,6 +167,38 @@ public final class PushTest {
         x = pushed("i35;llsl.;.....;.....", 0, 1, 0, 2);
         CHECK.due("struck, to the SAND", x.ofBlock(1, 1), 2);
         CHECK.due("ahead of the next", x.ofBlock(2, 1), 3);
+    }
+
+    /** What is struck SLIDES as it would by itself: from SAND, over SAND if it is a SLEDGE, over a FILLED CRACK. */
+    private static void struckOnItsWay() {
+        IceYard x = Check.yardOf("i36;los...;......;......");
+        CHECK.due("to the SAND", x.push(1, 1), 2);
+        CHECK.due("TRACKS of both", x.tracks(0, 1), Check.set(1, 3, 4, 5));
+        CHECK.due("it strikes the BLOCK on SAND", x.push(0, 1), 1);
+        CHECK.due("which slides on from there", x.ofBlock(1, 1), 5);
+        x = pushed("i36;l.dss.;......;......", 0, 1, 1, 1, 3, 4, 5);
+        CHECK.due("a SLEDGE that was struck goes over SAND", x.ofBlock(1, 1), 5);
+        x = pushed("i36;d.lss.;......;......", 0, 1, 1, 1, 3);
+        CHECK.due("a LOG that a SLEDGE struck stops on it", x.ofBlock(1, 1), 3);
+        x = pushed("i36;o#....;l.dsol;......", 1, 1, 7, 7, 9);
+        CHECK.due("a SLEDGE stays on SAND, where it strikes", x.ofBlock(2, 1), 9);
+        CHECK.due("a BLOCK that stays sends on nothing", x.ofBlock(3, 1), 10);
+        x = pushed("i36;d.dsl.;......;......", 0, 1, 1, 1, 3, 5);
+        CHECK.due("second", x.ofBlock(1, 1), 3);
+        CHECK.due("third", x.ofBlock(2, 1), 5);
+        x = Check.yardOf("i36;#..o..;l..c.a;...o..");
+        CHECK.due("into the CRACK", x.push(0, 2), IceYard.GONE);
+        CHECK.due("the other one lies above the FILLED CRACK", x.push(2, 0), 3);
+        x = Check.yardOf("i36;lo.co.;......;......");
+        CHECK.due("into the CRACK from behind", x.push(2, 3), IceYard.GONE);
+        CHECK.due("TRACKS over the FILLED CRACK", x.tracks(0, 1), Check.set(2, 3, 4, 5));
+        CHECK.due("it sends on over it", x.push(0, 1), 0);
+        CHECK.due("to the end", x.ofBlock(1, 1), 5);
+        // Pushed where it stays, a LOG's PUSH is told by its own place, not by that of the one that it sends on.
+        x = pushed("i34;lo.c;....;....", 0, 1, 0, 2, 3);
+        CHECK.due("GONE", x.ofBlock(1, 1), IceYard.GONE);
+        x = pushed("i34;dl.a;....;....", 0, 1, 0, 2, 3);
+        CHECK.due("HOME", x.ofBlock(1, 1), -20);
     }
 
     private static void refusals() {

@@ -11,6 +11,7 @@ public final class SearchTest {
         wonInThree();
         noneCanPush();
         again();
+        firstByItself();
         CHECK.end();
     }
 
@@ -168,6 +169,7 @@ public final class SearchTest {
         CHECK.due(text + " won " + boy, x.won(boy), won);
         CHECK.due(text + " first " + boy, x.first(boy), first);
         CHECK.due(text + " no PUSH is done", x.many(4), 0);
+        CHECK.due(text + " first " + boy + " by itself", Check.yardOf(text).first(boy), first);
     }
 
     private static void games() {
@@ -214,5 +216,34 @@ public final class SearchTest {
         CHECK.due("behind a WALL", x.fewest(0, -1), 3);
         CHECK.due("behind a WALL, the first", x.fewest(0, 0), 2);
         CHECK.due("won 0 behind a WALL", x.won(0), IceYard.NONE);
+    }
+
+    /** FIRST is of the YARD as it is and of the boy that is told, whatever was asked ahead of it. */
+    private static void firstByItself() {
+        IceYard x = Check.yardOf("i35;o...a;.....;....b");
+        CHECK.due("first 0", x.first(0), 1);
+        CHECK.due("first 1, behind first 0", x.first(1), IceYard.NONE);
+        CHECK.due("won 1", x.won(1), IceYard.NONE);
+        CHECK.due("first 0, behind won 1", x.first(0), 1);
+        CHECK.due("would", x.would(0, 2), 10);
+        CHECK.due("first 0, behind would", x.first(0), 1);
+        x.push(0, 2);
+        CHECK.due("first 0 from below", x.first(0), IceYard.NONE);
+        CHECK.due("first 1 from below", x.first(1), 1);
+        CHECK.due("first 2 from below", x.first(2), IceYard.UNKNOWN);
+        x.keep(0);
+        x.undo(1);
+        CHECK.due("first 1 from above", x.first(1), IceYard.NONE);
+        x.back(0);
+        CHECK.due("first 1 from below once more", x.first(1), 1);
+        CHECK.due("rows ahead of it", x.rows(3, 1, -1), 0);
+        CHECK.due("first 1, behind rows", x.first(1), 1);
+        Check.lay(x, "i33;#sa;.l.;#b#");
+        CHECK.due("first 0 of another YARD", x.first(0), 3);
+        CHECK.due("won 0 behind first", x.won(0), 3);
+        CHECK.due("first 1 of another YARD", x.first(1), 2);
+        Check.lay(x, "i33;...;...;...");
+        CHECK.due("first 0 where there is no BLOCK", x.first(0), IceYard.NONE);
+        CHECK.due("first 1 where there is no BLOCK", x.first(1), IceYard.NONE);
     }
 }

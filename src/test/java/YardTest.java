@@ -11,6 +11,7 @@ public final class YardTest {
         allAnew();
         cellsAnew();
         rowsOfAText();
+        sheetsAfterwards();
         lanes();
         at();
         ofBlock();
@@ -188,6 +189,25 @@ public final class YardTest {
         CHECK.due("none behind the last", x.yard(0, 1, 60, 0), -100);
         CHECK.due("none farther on", x.yard(0, 1, 61, 0), -13);
         CHECK.due("the YARD is still that", x.many(2), 2);
+    }
+
+    /** A YARD is not its SHEET: what becomes of the SHEET then changes nothing in it. */
+    private static void sheetsAfterwards() {
+        IceYard x = Check.yardOf("i33;l.a;.#.;c.o");
+        x.put(3, 4, '#');
+        x.put(3, 1, '6');
+        CHECK.due("a cell of the SHEET changed", x.at(0), 10);
+        CHECK.due("HIGH", x.many(0), 3);
+        x.sheet(3, 0, 60);
+        CHECK.due("a new row", x.many(2), 2);
+        CHECK.due("lose", x.lose(3), 1);
+        CHECK.due("no FIRST FAULT, but NULL", x.yard(3, 2, 0, 15), -11);
+        CHECK.due("the BLOCK lies still", x.at(8), 11);
+        CHECK.due("HOME", x.push(0, 1), -20);
+        CHECK.due("GONE", x.push(1, 3), IceYard.GONE);
+        CHECK.due("tell", x.tell(1), 8);
+        CHECK.due("undo", x.undo(2), 0);
+        CHECK.due("undo brings no SHEET back: lose again", x.lose(3), 0);
     }
 
     private static void lanes() {
